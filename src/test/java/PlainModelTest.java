@@ -24,10 +24,8 @@ public final class PlainModelTest {
     private static long state = 20261118;
 
     public static void main(String[] args) {
-        for (int run = 0; run < 400; run++) {
-            Model model = new Model();
-            String text = model.makeHouse(run < 300 ? 2 + pick(4) : 2 + pick(5));
-            compareHouse(model, text, run);
+        for (int run = 0; run < 120; run++) {
+            compareHouses(run, run < 100 ? 4 : 5);
         }
         for (int run = 0; run < 6000; run++) {
             compareFaults();
@@ -42,10 +40,50 @@ public final class PlainModelTest {
         return (int) ((state >>> 33) % n);
     }
 
-    private static void compareHouse(Model m, String text, int run) {
-        CopyOrders x = Checks.with(text);
-        String t = run + " " + text + ": ";
+    /** Three HOUSES on one object, the first two of them kept and put back behind the third. */
+    private static void compareHouses(int run, int sizes) {
+        CopyOrders x = new CopyOrders();
+        Model[] models = new Model[3];
+        String[] names = new String[3];
+        for (int i = 0; i < 3; i++) {
+            models[i] = new Model();
+            String text = models[i].makeHouse(2 + pick(sizes));
+            names[i] = run + " " + i + " " + text + ": ";
+            Checks.due("house() of " + names[i], Checks.house(x, text) < 0, false);
+            addSome(x, models[i], names[i]);
+            if (pick(3) > 0) {
+                tellSentence(x, models[i], names[i]);
+            }
+            compareAll(x, models[i], names[i]);
+            if (i < 2) {
+                Checks.due("image", x.image(i), true);
+            }
+        }
+        for (int i = 0; i < 2; i++) {
+            Checks.due("restore", x.restore(i), true);
+            compareAll(x, models[i], "restored: " + names[i]);
+        }
+    }
+
+    private static void addSome(CopyOrders x, Model m, String t) {
+        for (int i = pick(4); i > 0 && m.copies.size() < 10; i--) {
+            String copy = m.shuffled().substring(0, pick(3) == 0 ? 1 + pick(m.n) : m.n);
+            Checks.lay(x, copy.chars().map(c -> c - 'a').toArray());
+            Checks.due(t + "add " + copy, x.add(), m.copies.size());
+            m.copies.add(copy);
+            m.names.add("");
+        }
+    }
+
+    private static void tellSentence(CopyOrders x, Model m, String t) {
+        String text = m.makeSentence(pick(3));
+        int want = m.sentence(text);
+        Checks.due(t + "sentence " + text, Checks.sentence(x, text), want);
+    }
+
+    private static void compareAll(CopyOrders x, Model m, String t) {
         compareState(x, m, t);
+        Checks.due(t + "said", x.said(), m.said());
         compareCopies(x, m, t);
         compareJudge(x, m, t);
         compareNearest(x, m, t);
@@ -483,7 +521,7 @@ public final class PlainModelTest {
             return text.toString();
         }
 
-        private String shuffled() {
+        String shuffled() {
             StringBuilder all = new StringBuilder("abcdefg".substring(0, n));
             StringBuilder order = new StringBuilder();
             while (all.length() > 0) {

@@ -197,6 +197,11 @@ public final class PromisesTest {
         due("said()", x.said(), 1);
         due("house() again", Checks.house(x, "copy x abc;"), 1);
         due("said() in the new HOUSE", x.said(), -1);
+        due("house() once more", Checks.house(x, "copy x ba;copy y ab;copy z abcd;"), 3);
+        due("said() where a SENTENCE was", x.said(), -1);
+        due("between(0, 1, 0) where longer copies were", x.between(0, 1, 0), 1);
+        due("between(0, 2, 0) where longer copies were", x.between(0, 2, 0), 1);
+        due("house() without lines", Checks.house(x, ""), 0);
         due("count(0) without lines", x.count(0), 4);
         due("ways without likely", x.ways(0, 1, 1), 1);
     }
@@ -408,6 +413,14 @@ public final class PromisesTest {
         x = Checks.with(TEN_COPIES);
         Checks.lay(x, 0);
         due("add() to ten told", x.add(), -1);
+        Checks.house(x, "");
+        Checks.house(x, "");
+        Checks.lay(x, 0);
+        due("add() where a COPY with a NAME was", x.add(), 0);
+        due("it has no NAME", Checks.sentence(x, "far ka<9"), -5);
+        due("fault()", x.fault(), 3);
+        due("it has no NAME at all", Checks.sentence(x, "far a<9"), -5);
+        due("fault()", x.fault(), 3);
     }
 
     // Promise 9
@@ -761,6 +774,7 @@ public final class PromisesTest {
         CopyOrders x = new CopyOrders();
         // seed 0: 12345, its draw 48; then 3554416254, its draw 13884438
         due("k 0", x.drawn(7, 0, 99), 7);
+        due("k 100", x.drawn(7, 100, 99) >= 0, true);
         due("draw 48 of 3 is 0: place 1", x.drawn(0, 1, 0), 6);
         due("draw 13884438 of 3 is 0: place 1", x.drawn(0, 2, 0), 0);
         x = Checks.with("likely 1 0;likely 2 1;likely 3 0;");
