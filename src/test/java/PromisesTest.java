@@ -1,5 +1,3 @@
-import java.util.NoSuchElementException;
-
 /** Each promise of the document by its number, with answers worked out by hand. */
 public final class PromisesTest {
     /** Orders of three lines: 0 abc, 1 acb, 2 bac, 3 bca, 4 cab, 5 cba. */
@@ -62,24 +60,16 @@ public final class PromisesTest {
         Checks.due(call, got, want);
     }
 
-    /** A HOUSE with a FAULT of a kind at the mark ^. */
     private static void houseFault(int kind, String marked) {
-        CopyOrders x = new CopyOrders();
-        due("house() of " + marked, Checks.house(x, marked.replace("^", "")), -1 - marked.indexOf('^'));
-        due("fault() of " + marked, x.fault(), kind);
+        Checks.houseFault(kind, marked);
     }
 
     private static void houseIs(int lines, String text) {
-        CopyOrders x = new CopyOrders();
-        due("house() of " + text, Checks.house(x, text), lines);
-        due("fault() of " + text, x.fault(), 0);
+        Checks.houseIs(lines, text);
     }
 
     private static void sentenceFault(int kind, String marked) {
-        CopyOrders x = Checks.with(THREE);
-        due("sentence() of " + marked, Checks.sentence(x, marked.replace("^", "")), -1 - marked.indexOf('^'));
-        due("fault() of " + marked, x.fault(), kind);
-        due("said() behind " + marked, x.said(), -1);
+        Checks.sentenceFault(THREE, kind, marked);
     }
 
     /** What is said of x, y, z, w, v, u (bits 0 to 5) of THREE with some lines more. */
@@ -95,23 +85,11 @@ public final class PromisesTest {
     }
 
     private static void lineThrows(CopyOrders x, int c, int i) {
-        boolean thrown = false;
-        try {
-            x.line(c, i);
-        } catch (NoSuchElementException e) {
-            thrown = true;
-        }
-        due("line(" + c + ", " + i + ") throws", thrown, true);
+        Checks.lineThrows(x, c, i);
     }
 
     private static void alongThrows(CopyOrders x, int o, int k, int what) {
-        boolean thrown = false;
-        try {
-            x.along(o, k, what);
-        } catch (NoSuchElementException e) {
-            thrown = true;
-        }
-        due("along(" + o + ", " + k + ", " + what + ") throws", thrown, true);
+        Checks.alongThrows(x, o, k, what);
     }
 
     // Promise 1
