@@ -601,6 +601,19 @@ public final class HouseBoundaryTest {
             due("song(4) behind " + text, x.song(4), 9);
             due("said() behind " + text, x.said(), 2);
             due("a NAME behind " + text, Checks.sentence(x, "far y=0"), 1);
+            due("house() without a FAULT behind " + text, Checks.house(x, old), 7);
+            due("fault() behind " + text, x.fault(), 0);
+            due("count(4) without a FAULT behind " + text, x.count(4), 1);
+            due("count(5) without a FAULT behind " + text, x.count(5), 1);
+        }
+        CopyOrders x = new CopyOrders();
+        String[] pairs = {"sense e a;", "sense a e;", "sense a", "rhyme e a 1;", "rhyme a e 1;", "rhyme a b 0;",
+            "likely 4 1;", "likely 1 10;", "desk d most 0;", "lines 1;", "copy x aa;"};
+        for (String text : pairs) {
+            due("house() of " + text + " has a FAULT", Checks.house(x, text) < 0, true);
+            due("house() without a FAULT behind " + text, Checks.house(x, old), 7);
+            due("sense(0) behind " + text, x.sense(0), 3);
+            due("song(4) behind " + text, x.song(4), 9);
         }
     }
 

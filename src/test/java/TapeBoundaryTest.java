@@ -18,6 +18,7 @@ public final class TapeBoundaryTest {
         ordersRise();
         image();
         imageKeepsAll();
+        imageKeepsOrders();
         restore();
         restoreLeaves();
         count();
@@ -364,7 +365,7 @@ public final class TapeBoundaryTest {
     private static void imageKeepsAll() {
         Checks.says("They are as kept in place k");
         CopyOrders x = Checks.with("lines 3;copy x cab;copy y b;copy z bca;desk d most 2;desk e drops;likely 1 4;"
-                + "sense c a;rhyme c a 6;");
+                + "sense c a;rhyme c a 6;rhyme a b 1;rhyme b a 2;");
         due("add()", addLines(x, "cb"), 3);
         Checks.sentence(x, "size=2 or far y=0 and not ahead c b");
         x.image(0);
@@ -375,7 +376,7 @@ public final class TapeBoundaryTest {
                 + "likely 1 0;likely 2 9;sense a c;sense b a;rhyme c a 9;rhyme a b 9;rhyme b a 9;");
         Checks.sentence(x, "has e and has a and has b");
         due("restore(0)", x.restore(0), true);
-        int[] counts = {3, 4, 2, 6, 1, 1};
+        int[] counts = {3, 4, 2, 6, 1, 3};
         for (int what = 0; what < counts.length; what++) {
             due("count(" + what + ")", x.count(what), counts[what]);
         }
@@ -394,7 +395,7 @@ public final class TapeBoundaryTest {
         due("W at 2", x.ways(0, 1, 1), 1);
         due("sense(-1)", x.sense(-1), 3);
         due("sense(0)", x.sense(0), 3);
-        int[] songs = {0, 0, 0, 6, 6, 0};
+        int[] songs = {1, 0, 2, 6, 7, 2};
         for (int o = 0; o < 6; o++) {
             due("song(" + o + ")", x.song(o), songs[o]);
         }
@@ -417,6 +418,47 @@ public final class TapeBoundaryTest {
         due("count(1)", x.count(1), 0);
         due("W at 1", x.ways(0, 6, 1), 1);
         due("sense(-1)", x.sense(-1), 24);
+    }
+
+    private static void imageKeepsOrders() {
+        Checks.says("They are as kept in place k");
+        String[] names = {"gfedcba", "abcdefg", "bdfaceg", "ecag", "g", "fgab", "cabgfed", "dgebcfa", "aebfcgd", "ba"};
+        StringBuilder house = new StringBuilder("lines 7;");
+        for (int c = 0; c < 10; c++) {
+            house.append("copy k").append((char) ('a' + c)).append(' ').append(names[c]).append(';');
+        }
+        house.append("sense a b;sense c d;sense g a;sense e c;rhyme a b 3;rhyme b a 5;rhyme e f 7;");
+        CopyOrders x = Checks.with(house.toString());
+        int[] told = answers(x);
+        due("image(0)", x.image(0), true);
+        Checks.house(x, "lines 6;copy ka abcdef;copy kb fedcba;sense b a;");
+        due("restore(0)", x.restore(0), true);
+        int[] kept = answers(x);
+        for (int i = 0; i < told.length; i++) {
+            due("answer " + i + " of the restored HOUSE", kept[i], told[i]);
+        }
+        due("between(0, 1, 0)", x.between(0, 1, 0), 21);
+        // c e, a c, a e are turned; b, d and f fell
+        due("between(1, 3, 0)", x.between(1, 3, 0), 3);
+        due("between(1, 3, 1)", x.between(1, 3, 1), 3);
+        due("count(4)", x.count(4), 4);
+        due("count(5)", x.count(5), 3);
+        due("image(1)", x.image(1), true);
+        due("restore(1)", x.restore(1), true);
+        due("between(0, 1, 0)", x.between(0, 1, 0), 21);
+    }
+
+    private static int[] answers(CopyOrders x) {
+        int[] row = new int[130];
+        for (int i = 0; i < 100; i++) {
+            row[i] = x.between(i / 10, i % 10, 2);
+        }
+        for (int c = 0; c < 10; c++) {
+            row[100 + c] = x.mended(c, 0);
+            row[110 + c] = x.better(c, 4);
+            row[120 + c] = x.woven(0, 1, c);
+        }
+        return row;
     }
 
     private static void restore() {
