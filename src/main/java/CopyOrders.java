@@ -175,7 +175,7 @@ public final class CopyOrders {
             return NONE;
         }
         int bits = 0;
-        for (int d = 0; d < told.desks; d++) {
+        for (int d = 0; d < told.desks && d < MOST_DESKS; d++) {
             if (told.deskRows[d].mayMake(from, to)) {
                 bits |= 1 << d;
             }
@@ -393,7 +393,7 @@ public final class CopyOrders {
         if (!isWithin(k, MOST_HELD) || length != told.lines) {
             return NONE;
         }
-        for (int i = 0; i < length; i++) {
+        for (int i = 0; i < length && i < MOST_LINES; i++) {
             markRow[i] = byteAt(i);
         }
         return orders().marksHold(markRow, k) ? 1 : 0;
@@ -406,7 +406,7 @@ public final class CopyOrders {
         }
         Orders orders = orders();
         for (int m = 1; m <= told.lines; m++) {
-            for (int i = 0; i < told.lines; i++) {
+            for (int i = 0; i < told.lines && i < MOST_LINES; i++) {
                 markRow[i] = i % m;
             }
             if (orders.marksHold(markRow, k)) {
@@ -542,7 +542,7 @@ public final class CopyOrders {
             return NONE;
         }
         int bits = 0;
-        for (int c = 0; c < told.copies; c++) {
+        for (int c = 0; c < told.copies && c < MOST_COPIES; c++) {
             if (told.sentence.isTrueOf(told.copyRows[c], told)) {
                 bits |= 1 << c;
             }
@@ -581,7 +581,7 @@ public final class CopyOrders {
             case 2:
                 return told.desks;
             case 3:
-                return FACTORIALS[told.lines];
+                return factorial(told.lines);
             case 4:
                 return told.senses;
             case 5:
@@ -632,7 +632,7 @@ public final class CopyOrders {
     }
 
     private Orders orders() {
-        int lines = told.lines;
+        int lines = Math.max(LEAST_LINES, Math.min(MOST_LINES, told.lines));
         if (tables[lines] == null) {
             tables[lines] = new Orders(lines);
         }
@@ -643,12 +643,16 @@ public final class CopyOrders {
     private int farFromAll(Orders orders, int x, int how) {
         int sum = 0;
         int worst = 0;
-        for (int c = 0; c < told.copies; c++) {
+        for (int c = 0; c < told.copies && c < MOST_COPIES; c++) {
             int far = orders.farTo(x, told.copyRows[c]);
             sum += far;
             worst = Math.max(worst, far);
         }
         return how == 0 ? sum : worst;
+    }
+
+    private static int factorial(int n) {
+        return n >= 0 && n < FACTORIALS.length ? FACTORIALS[n] : 1;
     }
 
     private static boolean isWithin(int k, int most) {
@@ -1066,7 +1070,7 @@ public final class CopyOrders {
 
         /** COPY c; null, if there is none. */
         Copy copyAt(int c) {
-            return c >= 0 && c < copies ? copyRows[c] : null;
+            return c >= 0 && c < copies && c < MOST_COPIES ? copyRows[c] : null;
         }
 
         /** COPY c, if it is WHOLE; null otherwise. */
@@ -1086,7 +1090,7 @@ public final class CopyOrders {
 
         /** DESK d; null, if there is none. */
         Desk deskAt(int d) {
-            return d >= 0 && d < desks ? deskRows[d] : null;
+            return d >= 0 && d < desks && d < MOST_DESKS ? deskRows[d] : null;
         }
 
         /** The DESK that is next, not counted yet; null, if there is no room. */
@@ -1096,7 +1100,7 @@ public final class CopyOrders {
 
         /** The number of the COPY of a NAME; NONE, if there is none. */
         int copyNamed(long name) {
-            for (int c = 0; c < copies; c++) {
+            for (int c = 0; c < copies && c < MOST_COPIES; c++) {
                 if (copyRows[c].name == name) {
                     return c;
                 }
@@ -1105,7 +1109,7 @@ public final class CopyOrders {
         }
 
         boolean isNamed(long name) {
-            for (int d = 0; d < desks; d++) {
+            for (int d = 0; d < desks && d < MOST_DESKS; d++) {
                 if (deskRows[d].name == name) {
                     return true;
                 }
@@ -1114,7 +1118,7 @@ public final class CopyOrders {
         }
 
         boolean hasSense(int a, int b) {
-            for (int i = 0; i < senses; i++) {
+            for (int i = 0; i < senses && i < MOST_PAIRS; i++) {
                 if (senseAhead[i] == a && senseBehind[i] == b) {
                     return true;
                 }
@@ -1145,7 +1149,7 @@ public final class CopyOrders {
 
         /** Whether an order told by its pairs HOLDS the SENSE. */
         boolean keepsSense(int turned, int pairs) {
-            for (int i = 0; i < senses; i++) {
+            for (int i = 0; i < senses && i < MOST_PAIRS; i++) {
                 int bit = pairBit(senseAhead[i], senseBehind[i]);
                 boolean higherAhead = (turned & bit) != 0;
                 boolean higherDue = senseAhead[i] > senseBehind[i];
@@ -1458,7 +1462,7 @@ public final class CopyOrders {
         boolean isTrueOf(Copy copy, House house) {
             // The truths not joined yet, the latest as the lowest bit: 20 ONES fit.
             int truths = 0;
-            for (int i = 0; i < length; i++) {
+            for (int i = 0; i < length && i < ROOM; i++) {
                 int latest = truths & 1;
                 switch (kinds[i]) {
                     case NOT:
@@ -1686,7 +1690,7 @@ public final class CopyOrders {
 
         Orders(int n) {
             lines = Math.max(LEAST_LINES, Math.min(MOST_LINES, n));
-            total = FACTORIALS[lines];
+            total = factorial(lines);
             allPairs = (1 << lines * (lines - 1) / 2) - 1;
             packed = new int[total];
             turned = new int[total];
@@ -1732,7 +1736,7 @@ public final class CopyOrders {
         int numberOf(Copy order) {
             int number = 0;
             for (int i = 0; i < lines; i++) {
-                number += lowerBehind(order, i) * FACTORIALS[lines - 1 - i];
+                number += lowerBehind(order, i) * factorial(lines - 1 - i);
             }
             return number;
         }
@@ -1798,9 +1802,11 @@ public final class CopyOrders {
         }
 
         private void passOn(int x, int[] weights) {
-            int row = x * (lines - 1);
             for (int p = 0; p < lines - 1 && p < weights.length; p++) {
-                later[exchanges[row + p]] += now[x] * weights[p];
+                int to = exchanged(x, p);
+                if (has(to)) {
+                    later[to] += now[x] * weights[p];
+                }
             }
         }
 
@@ -1813,8 +1819,8 @@ public final class CopyOrders {
                 int hereAfter = higherAhead ? next : next + 1;
                 int nextAfter = higherAhead ? here - 1 : here;
                 exchanges[x * (lines - 1) + p] = x
-                        + (hereAfter - here) * FACTORIALS[lines - 1 - p]
-                        + (nextAfter - next) * FACTORIALS[lines - 2 - p];
+                        + (hereAfter - here) * factorial(lines - 1 - p)
+                        + (nextAfter - next) * factorial(lines - 2 - p);
             }
         }
 
@@ -1882,7 +1888,7 @@ public final class CopyOrders {
 
         /** Takes the FARS of the members as they are now; false, if one is there no more. */
         boolean measure(House house) {
-            for (int i = 0; i < members; i++) {
+            for (int i = 0; i < members && i < MOST_IN_TREE; i++) {
                 Copy one = house.copyAt(numbers[i]);
                 if (one == null) {
                     return false;
@@ -1901,19 +1907,19 @@ public final class CopyOrders {
         /** Keeps from which each member was copied: the sum. */
         int settle() {
             int sum = span(members);
-            for (int i = 0; i < members; i++) {
-                sources[i] = i == 0 ? NONE : numbers[closest[i]];
+            for (int i = 0; i < members && i < MOST_IN_TREE; i++) {
+                sources[i] = i == 0 ? NONE : numberAt(closest[i]);
             }
             return sum;
         }
 
         int sourceOf(int i) {
-            return i >= 0 && i < members ? sources[i] : NONE;
+            return i >= 0 && i < members && i < ROOM ? sources[i] : NONE;
         }
 
         /** The sum with the whole order x laid with the members as the last one. */
         int spanWith(House house, Orders orders, int x) {
-            for (int i = 0; i < members; i++) {
+            for (int i = 0; i < members && i < MOST_IN_TREE; i++) {
                 Copy copy = house.copyAt(numbers[i]);
                 putFar(members, i, copy == null ? 0 : orders.farTo(x, copy));
             }
@@ -1960,9 +1966,15 @@ public final class CopyOrders {
             return best;
         }
 
+        private int numberAt(int i) {
+            return i >= 0 && i < ROOM ? numbers[i] : NONE;
+        }
+
         private void putFar(int i, int j, int far) {
-            fars[i * ROOM + j] = far;
-            fars[j * ROOM + i] = far;
+            if (i >= 0 && i < ROOM && j >= 0 && j < ROOM) {
+                fars[i * ROOM + j] = far;
+                fars[j * ROOM + i] = far;
+            }
         }
     }
 }

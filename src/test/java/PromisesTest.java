@@ -49,6 +49,7 @@ public final class PromisesTest {
         whatRestoreLeaves();
         count();
         tapeIsEmptyBehindEachTaking();
+        exampleOfTheReadme();
         Checks.finish();
     }
 
@@ -1220,5 +1221,16 @@ public final class PromisesTest {
             }
             due("count(6) behind call " + call, x.count(6), call < 8 ? 0 : 3);
         }
+    }
+
+    /** README.md tells this run, call by call. */
+    private static void exampleOfTheReadme() {
+        CopyOrders desk = new CopyOrders();
+        due("feed, README", desk.feed(0x636f7079, 0x20782061, 0x6263643b, 0x636f7079, 0x20792062), 20);
+        due("feed, README", desk.feed(0x6163643b, 0, 0, 0, 0), 40);
+        due("end(24), README", desk.end(24), true);
+        due("house(), README", desk.house(), 2);
+        due("between(0, 1, 0), README", desk.between(0, 1, 0), 1);
+        due("order(6, 0), README", desk.order(6, 0), 1);
     }
 }
